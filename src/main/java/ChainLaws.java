@@ -4,18 +4,20 @@
  */
 public final class ChainLaws {
     private static final int STATES = 4;
+    private static final int CELLS = STATES * STATES;
     private static final int OTHERS = STATES - 1;
+    private static final int ENTRIES = OTHERS * OTHERS;
     private static final int TOP_RATE = 9;
     private static final int REFUSED = -1;
     private static final int NO_STATE = -1;
     // Euclid's steps on two ints are never more than 46.
     private static final int DIVISOR_STEPS = 64;
 
-    private final int[] rates = new int[STATES * STATES];
+    private final int[] rates = new int[CELLS];
 
     // All below is worked out anew in each call and says nothing to the next.
-    private final boolean[] reached = new boolean[STATES * STATES];
-    private final int[] matrix = new int[OTHERS * OTHERS];
+    private final boolean[] reached = new boolean[CELLS];
+    private final int[] matrix = new int[ENTRIES];
     private final int[] right = new int[OTHERS];
     private int upper;
     private int lower;
